@@ -1,3 +1,5 @@
+import java.util.Arrays;
+
 /**
  * People with purses who lay down, when two meet, the greatest sum that goes evenly into what each has.
  * The document ../shared/DOC.md says what every call answers; words in capitals here are its terms.
@@ -707,9 +709,13 @@ public final class PursesShare {
         }
     }
 
-    /** RUIN: all rows of the others are tried, the first ones first, and only a shorter one takes the place. */
+    /**
+     * RUIN: all rows of the others are tried, the first ones first, and only a shorter one takes the place.
+     * Those that were sent are bits of a number. Where the same ones were sent in another order ahead of
+     * this, and left as much, what could come behind them was tried then: the last such sum of each is noted.
+     */
     private static final class RuinSearch {
-        private final boolean[] used = new boolean[MOST_PEOPLE];
+        private final int[] lastHeld = new int[1 << MOST_PEOPLE];
         private final int[] row = new int[MOST_PEOPLE];
         private final int[] best = new int[MOST_PEOPLE];
         private int fewest;
@@ -721,34 +727,31 @@ public final class PursesShare {
             goal = x;
             // As many as all people is one more than there are others: none was found.
             fewest = people;
-            used[person] = true;
-            goOn(0, from.purses[person], from);
-            used[person] = false;
+            Arrays.fill(lastHeld, -1);
+            goOn(0, 1 << person, from.purses[person], from);
         }
 
         private boolean isFound() {
             return fewest < people;
         }
 
-        private void goOn(int depth, int held, Holding from) {
+        private void goOn(int depth, int used, int held, Holding from) {
             if (held <= goal) {
                 fewest = depth;
                 System.arraycopy(row, 0, best, 0, MOST_PEOPLE);
                 return;
             }
             for (int other = 0; other < people && depth + 1 < fewest; other++) {
-                if (!used[other]) trySending(other, depth, held, from);
+                if ((used >> other & 1) == 0) trySending(other, depth, used | 1 << other, held, from);
             }
         }
 
-        private void trySending(int other, int depth, int held, Holding from) {
+        private void trySending(int other, int depth, int used, int held, Holding from) {
             int then = heldAfterOne(from.lawNumber, held, from.purses[other]);
-            // A MEETING that does nothing is in no row of the fewest.
-            if (then == held) return;
-            used[other] = true;
+            if (lastHeld[used] == then) return;
+            lastHeld[used] = then;
             row[depth] = other;
-            goOn(depth + 1, then, from);
-            used[other] = false;
+            goOn(depth + 1, used, then, from);
         }
     }
 
