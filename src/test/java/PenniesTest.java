@@ -112,6 +112,17 @@ public final class PenniesTest {
         for (int prime : primes) x.see(prime, 1);
         mayHold(x, 99999, 99999 - 8, 1, 99999);
         mayHold(x, 99991, 99991 - 8, 1, 99990);
+        // As many unlike primes as one sum can have: of 30030 purses in a row 5760 share nothing but 1 with it.
+        x.unsee();
+        x.see(30030, 1);
+        mayHold(x, 90090, 3 * 5760, 1, 90089);
+        // What was looked at for the first SEEN does not count for the next.
+        x.unsee();
+        x.see(15, 1);
+        mayHold(x, 10, 5, 1, 8);
+        x.unsee();
+        x.see(3, 1);
+        mayHold(x, 10, 7, 1, 10);
     }
 
     private static void mayHold(PursesShare x, int n, int howMany, int least, int greatest) {
