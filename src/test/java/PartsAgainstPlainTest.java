@@ -13,22 +13,21 @@ public final class PartsAgainstPlainTest {
     }
 
     private static void smallPairs() {
-        PursesShare x = new PursesShare();
         for (int mine = 0; mine <= 60; mine++) {
-            for (int theirs = 0; theirs <= 60; theirs++) pair(x, mine, theirs);
+            for (int theirs = 0; theirs <= 60; theirs++) pair(mine, theirs);
             // Full purses meet LAW 1's loss, be the other one full, too, or almost empty.
-            pair(x, 99999 - mine, 99999);
-            pair(x, 99999 - mine, 99990);
-            pair(x, 99999, mine);
+            pair(99999 - mine, 99999);
+            pair(99999 - mine, 99990);
+            pair(99999, mine);
         }
     }
 
     private static void greatPairs() {
-        PursesShare x = new PursesShare();
-        for (int i = 0; i < 150; i++) pair(x, dice.sum(), dice.sum());
+        for (int i = 0; i < 150; i++) pair(dice.sum(), dice.sum());
     }
 
-    private static void pair(PursesShare x, int mine, int theirs) {
+    private static void pair(int mine, int theirs) {
+        PursesShare x = new PursesShare();
         x.fill(0, mine);
         x.fill(1, theirs);
         for (int law = 0; law < 4; law++) {
