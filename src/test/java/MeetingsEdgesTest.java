@@ -385,6 +385,9 @@ public final class MeetingsEdgesTest {
         ring(0, 1, 3, 1, 1);
         ring(0, 1, 4, 2, 1);
         ring(0, 1, 99999, 2, 22);
+        // 1 to 5, then 2 to 4, which change places; told in as great a SHARED as can be.
+        ring(0, 1, 5, 2, 1);
+        ring(0, 19999, 99995, 2, 1);
         ring(1, 1, 99999, 1, 1);
         ring(1, 49999, 99998, 1, 1);
         ring(1, 99998, 99999, 1, 314);

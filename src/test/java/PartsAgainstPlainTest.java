@@ -24,6 +24,20 @@ public final class PartsAgainstPlainTest {
 
     private static void greatPairs() {
         for (int i = 0; i < 150; i++) pair(dice.sum(), dice.sum());
+        // Both have as many primes together as 199998 can have.
+        for (int all : new int[] {30030, 39270, 60060, 90090, 99330, 180180, 190190}) {
+            for (int i = 0; i < 5; i++) {
+                int mine = Math.max(1, all - 99999) + dice.below(Math.min(all - 1, 199999 - all));
+                pair(mine, all - mine);
+            }
+        }
+        // Who is full loses what comes beyond, and may share much with the other one.
+        for (int less : new int[] {33333, 30303, 27027, 24390, 11111, 9009, 37037, 66666, 90909}) {
+            pair(less, 99999);
+            pair(99999, less - 1);
+            pair(99996, less);
+        }
+        for (int unit = 16600; unit < 20000; unit += 97) pair(unit, 5 * unit);
     }
 
     private static void pair(int mine, int theirs) {
